@@ -415,9 +415,9 @@ public final class PenTrails {
             refused(NO_SUCH);
             return false;
         }
-        history.takeBack(drawing, plan);
-        // The PLAN that was taken back is one of the trails of the drawing as it was.
-        layTrails();
+        history.takeBack(drawing, otherPlan);
+        startPlan();
+        plan.copy(otherPlan);
         told(0);
         return true;
     }
@@ -488,15 +488,11 @@ public final class PenTrails {
         return otherMeetings.trailsInAll();
     }
 
-    private void layTrails() {
+    private void startPlan() {
         meetings.gather(drawing.join);
         pairing.gather();
         walks.gather();
         trails.gather();
-    }
-
-    private void startPlan() {
-        layTrails();
         plan.start();
     }
 
@@ -540,37 +536,34 @@ public final class PenTrails {
             next = 0;
         }
 
+        /** Goes on to the next token; one that is too long begins none, as a sign that is none. */
         void step() {
             while (next < limit && bytes[next] == ' ') {
                 next++;
             }
             start = next;
-            if (next >= limit) {
-                kind = END;
-            } else if (isLetter(bytes[next])) {
-                takeWord();
-            } else if (isDigit(bytes[next])) {
-                takeWhole();
-            } else {
-                kind = bytes[next] == ';' ? SEMICOLON : BROKEN;
-                next++;
-            }
-        }
-
-        private void takeWord() {
-            while (next < limit && isLetter(bytes[next])) {
-                next++;
-            }
-            kind = next - start <= LONGEST_WORD ? WORD : BROKEN;
-        }
-
-        private void takeWhole() {
             value = 0;
-            while (next < limit && isDigit(bytes[next])) {
+            kind = next < limit ? kindOf(bytes[next]) : END;
+            if (kind == SEMICOLON) {
+                next++;
+            }
+            while (next < limit && (kind == WORD || kind == WHOLE) && kindOf(bytes[next]) == kind) {
                 value = value * 10 + bytes[next] - '0';
                 next++;
             }
-            kind = next - start <= LONGEST_WHOLE ? WHOLE : BROKEN;
+            if (kind == WORD && next - start > LONGEST_WORD || kind == WHOLE && next - start > LONGEST_WHOLE) {
+                kind = BROKEN;
+            }
+        }
+
+        private static int kindOf(int sign) {
+            if (sign >= 'a' && sign <= 'z') {
+                return WORD;
+            }
+            if (sign >= '0' && sign <= '9') {
+                return WHOLE;
+            }
+            return sign == ';' ? SEMICOLON : BROKEN;
         }
 
         boolean isWord(String word) {
@@ -583,14 +576,6 @@ public final class PenTrails {
                 }
             }
             return true;
-        }
-
-        private static boolean isLetter(int b) {
-            return b >= 'a' && b <= 'z';
-        }
-
-        private static boolean isDigit(int b) {
-            return b >= '0' && b <= '9';
         }
     }
 
@@ -890,6 +875,8 @@ public final class PenTrails {
         private final Drawing drawing;
         private final Groups ends = new Groups();
         private final Groups knots = new Groups();
+        private final int[] pointX = new int[MOST_ENDS];
+        private final int[] pointY = new int[MOST_ENDS];
         final int[] endsIn = new int[MOST_ENDS];
         final int[] oddIn = new int[MOST_ENDS];
 
@@ -915,6 +902,10 @@ public final class PenTrails {
                 }
             }
             ends.numberAll();
+            for (int m = 0; m < ends.count; m++) {
+                pointX[m] = drawing.x[ends.first[m]];
+                pointY[m] = drawing.y[ends.first[m]];
+            }
         }
 
         private void gatherParts() {
@@ -974,11 +965,11 @@ public final class PenTrails {
         }
 
         int xOf(int m) {
-            return m == HOME ? drawing.homeX : drawing.x[firstEnd(m)];
+            return m == HOME ? drawing.homeX : pointX[m];
         }
 
         int yOf(int m) {
-            return m == HOME ? drawing.homeY : drawing.y[firstEnd(m)];
+            return m == HOME ? drawing.homeY : pointY[m];
         }
 
         int apart(int a, int b) {
