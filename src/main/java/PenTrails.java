@@ -1034,7 +1034,9 @@ public final class PenTrails {
     /** PAIRS of the odd meetings, part by part, and the CUT of each part. */
     private static final class Pairing {
         private static final int MOST_MATCHED = 14;
-        private static final int UNSEEN = -1;
+
+        /** So many sets come up with 14, as the first one free is always the next to be paired. */
+        private static final int MOST_SETS = 610;
 
         private final Meetings meetings;
         final int[] low = new int[MOST_STROKES];
@@ -1049,8 +1051,12 @@ public final class PenTrails {
         private int odds = 0;
         private final int[] oddApart = new int[MOST_MATCHED * MOST_MATCHED];
 
-        /** By the set of odd meetings that have partners: the least travel that pairs the others. */
-        private final int[] least = new int[1 << MOST_MATCHED];
+        // Sets of odd meetings that have partners, as bits, at places from 1 on: smaller ones first;
+        // by place the least travel that pairs all others; and by set its place, 0 for none.
+        private final int[] sets = new int[MOST_SETS + 1];
+        private int setCount = 0;
+        private final int[] least = new int[MOST_SETS + 1];
+        private final int[] placeOf = new int[1 << MOST_MATCHED];
 
         Pairing(Meetings meetings) {
             this.meetings = meetings;
@@ -1071,7 +1077,6 @@ public final class PenTrails {
             }
         }
 
-        /** The first pair of a part; that of the part behind the last is the count of all. */
         int firstIn(int p) {
             return firstOf[p];
         }
@@ -1138,7 +1143,7 @@ public final class PenTrails {
 
         private void pairByLeast() {
             measureOdds();
-            markReachable();
+            listSets();
             fillLeast();
             int paired = 0;
             for (int i = 0; i + 1 < odds; i += 2) {
@@ -1147,6 +1152,7 @@ public final class PenTrails {
                 putPair(a, b);
                 paired |= 1 << a | 1 << b;
             }
+            clearSets();
         }
 
         private void measureOdds() {
@@ -1165,38 +1171,46 @@ public final class PenTrails {
             return a;
         }
 
-        /** Most sets never come up, as the first one free is always the next to be paired. */
-        private void markReachable() {
-            int full = (1 << odds) - 1;
-            for (int paired = 1; paired <= full; paired++) {
-                least[paired] = UNSEEN;
-            }
-            least[0] = 0;
-            for (int paired = 0; paired < full; paired++) {
-                if (least[paired] != UNSEEN) {
-                    markNext(paired);
+        private void listSets() {
+            setCount = 0;
+            putSet(0);
+            for (int i = 1; i <= setCount && i <= MOST_SETS; i++) {
+                int paired = sets[i];
+                int a = firstFree(paired);
+                for (int b = a + 1; b < odds; b++) {
+                    if ((paired >> b & 1) == 0) {
+                        putSet(paired | 1 << a | 1 << b);
+                    }
                 }
             }
         }
 
-        private void markNext(int paired) {
-            int a = firstFree(paired);
-            for (int b = a + 1; b < odds; b++) {
-                if ((paired >> b & 1) == 0) {
-                    least[paired | 1 << a | 1 << b] = 0;
-                }
+        private void putSet(int paired) {
+            if (placeOf[paired] != 0 || setCount >= MOST_SETS) {
+                return;
+            }
+            setCount++;
+            sets[setCount] = paired;
+            placeOf[paired] = setCount;
+        }
+
+        private void clearSets() {
+            for (int i = 1; i <= setCount; i++) {
+                placeOf[sets[i]] = 0;
             }
         }
 
+        /** The last set is that of all, which leaves none to be paired. */
         private void fillLeast() {
-            int full = (1 << odds) - 1;
-            for (int paired = full - 1; paired >= 0; paired--) {
-                if (least[paired] != UNSEEN) {
-                    int a = firstFree(paired);
-                    int b = bestPartner(paired, a);
-                    least[paired] = oddApart[a * MOST_MATCHED + b] + least[paired | 1 << a | 1 << b];
-                }
+            least[setCount] = 0;
+            for (int i = setCount - 1; i >= 1; i--) {
+                int a = firstFree(sets[i]);
+                least[i] = travelWith(sets[i], a, bestPartner(sets[i], a));
             }
+        }
+
+        private int travelWith(int paired, int a, int b) {
+            return oddApart[a * MOST_MATCHED + b] + least[placeOf[paired | 1 << a | 1 << b]];
         }
 
         /** The first of the partners with which all that are free go least. */
@@ -1205,7 +1219,7 @@ public final class PenTrails {
             int bestSum = 0;
             for (int b = a + 1; b < odds; b++) {
                 if ((paired >> b & 1) == 0) {
-                    int sum = oddApart[a * MOST_MATCHED + b] + least[paired | 1 << a | 1 << b];
+                    int sum = travelWith(paired, a, b);
                     if (best == a || sum < bestSum) {
                         best = b;
                         bestSum = sum;
