@@ -34,6 +34,26 @@ public final class DrawingTest {
         due.is("about(0) of 700 bytes", full.about(0), 200);
     }
 
+    /** As many strokes, ends, meetings, parts, pairs and trails as there can be. */
+    private static void full() {
+        due.promise(3);
+        StringBuilder text = new StringBuilder("sheet size 200 join 0;home 200 200;pace 9 9");
+        for (int s = 0; s < 24; s++) {
+            text.append(";stroke ").append(8 * s).append(" 0 ").append(8 * s).append(" 100");
+        }
+        PenTrails x = new PenTrails();
+        due.is("sheet() of 24", x, Due.sheet(x, text.toString()), 24, 0);
+        due.row("about(_)", new int[] {x.about(7), x.about(8), x.about(9), x.about(10)}, 48, 24, 48, 24);
+        due.row("the last", new int[] {x.stroke(23, 6), x.meeting(47, 3), x.part(23, 4), x.pair(23, 1), x.walk(23, 0),
+            x.walk(23, 1), x.trail(23, 3), x.ride(23, 0), x.rides(23)}, 47, 23, 46, 47, 46, -2, 47, 46, 23);
+        due.is("loose(47)", x.loose(47), 47);
+        due.is("exchange(0, 23)", x.exchange(0, 23), 116 + 23 * 108 + 400);
+        due.is("floor()", x.floor(), 116 + 23 * 8);
+        due.is("time()", x.time(), 9 * (2400 + 3000));
+        due.is("pen(99999, 2)", x.pen(99999, 2), 24);
+        due.is("drop(23)", x.drop(23), 23);
+    }
+
     private static void byteOrder() {
         due.promise(2);
         PenTrails x = new PenTrails();
@@ -65,8 +85,7 @@ public final class DrawingTest {
         due.is("sheet()", x, Due.sheet(x, "sheet size 7 join 2;stroke 0 0 7 7"), 1, 0);
         due.is("size(1)", x.size(1), 0);
         due.is("about(0)", x.about(0), 7);
-        due.is("about(3)", x.about(3), 0);
-        due.is("about(5)", x.about(5), 1);
+        due.row("HOME and PACE", new int[] {x.about(3), x.about(4), x.about(5), x.about(6)}, 0, 0, 1, 1);
         due.is("trail(0, 5)", x.trail(0, 5), 0);
         due.is("sheet() of none", Due.sheet(x, "sheet size 7 join 2"), 0);
         due.is("about(10)", x.about(10), 0);
@@ -295,6 +314,7 @@ public final class DrawingTest {
     public static void main(String[] args) {
         newObject();
         feeding();
+        full();
         byteOrder();
         sheets();
         rightTexts();

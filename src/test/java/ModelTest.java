@@ -46,7 +46,7 @@ public final class ModelTest {
         Both both = new Both();
         int size = 2 + by.nextInt(by.nextBoolean() ? 20 : 199);
         int step = 1 + by.nextInt(Math.max(1, size / 2));
-        both.sheet(drawing(by, by.nextInt(25), size, step));
+        both.sheet(drawing(by, seed % 3 == 0 ? 24 : by.nextInt(25), size, seed % 4 == 0 ? 1 : step));
         both.askAll();
         both.ask(34, 0, 0, 0, 0);
         both.askAll();
@@ -135,7 +135,9 @@ public final class ModelTest {
             }
             both.feed(text.toString());
             both.sheet(by.nextInt(4) == 0 ? by.nextInt(text.length() + 22) : text.length());
-            both.ask(0, 2, 0, 0, 0);
+            for (int what = 0; what <= 6; what++) {
+                both.ask(0, what, 0, 0, 0);
+            }
         }
         ended("text " + seed, both);
     }
@@ -155,6 +157,7 @@ public final class ModelTest {
                 default: text.insert(at, sign);
             }
             both.sheet(text.toString());
+            both.ask(0, by.nextInt(11), 0, 0, 0);
         }
         ended("misspelt " + seed, both);
     }
@@ -169,6 +172,12 @@ public final class ModelTest {
         for (int seed = 0; seed < 400; seed++) {
             run(seed);
         }
+        Both tangle = new Both();
+        tangle.sheet(Due.TANGLE);
+        tangle.askAll();
+        tangle.ask(34, 0, 0, 0, 0);
+        tangle.askAll();
+        ended("tangle", tangle);
         extremes(null);
         extremes("sheet size 1 join 0");
         extremes(Due.SQUARE_AND_ARMS);

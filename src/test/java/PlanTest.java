@@ -86,6 +86,11 @@ public final class PlanTest {
         due.is("exchanged(0, 0)", line.exchanged(0, 0), 10 + 8 - 20 - 2);
         due.is("better(0)", line.better(0), 2 + 8 + 2 + 0);
         due.is("better(1)", line.better(1), 2);
+        PenTrails tangle = Due.drawn(Due.TANGLE);
+        due.is("better(1): no more than 200", tangle.better(1), 200);
+        int first = tangle.better(0);
+        due.is("improve()", tangle.improve(), first);
+        due.is("better(1): the others", tangle.better(1), 9);
     }
 
     private static void exchangeds() {

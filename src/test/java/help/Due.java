@@ -16,6 +16,15 @@ final class Due {
     static final String TWO_RINGS = "sheet size 10 join 0;stroke 0 0 4 0;stroke 4 0 4 4;stroke 4 4 0 0;"
         + "stroke 4 0 8 0;stroke 8 0 8 4;stroke 8 4 4 0";
 
+    /** So far from its best plan that BETTER ends by its 200 exchanges, 9 too early. */
+    static final String TANGLE = "sheet size 200 join 0"
+        + ";stroke 117 122 154 20;stroke 113 21 192 54;stroke 47 38 52 47;stroke 52 7 200 30"
+        + ";stroke 109 176 107 182;stroke 54 0 30 41;stroke 138 171 193 66;stroke 55 25 164 137"
+        + ";stroke 167 15 138 43;stroke 70 8 113 165;stroke 192 24 194 185;stroke 37 56 177 130"
+        + ";stroke 71 167 200 159;stroke 36 50 97 174;stroke 103 106 148 15;stroke 180 138 67 138"
+        + ";stroke 34 106 131 191;stroke 63 31 65 48;stroke 22 117 47 6;stroke 122 175 168 132"
+        + ";stroke 29 111 8 60;stroke 191 122 194 19;stroke 44 156 14 70;stroke 61 178 51 135";
+
     private int promise = 0;
     private int asked = 0;
     private int wrong = 0;
