@@ -836,10 +836,6 @@ public final class PenTrails {
             }
         }
 
-        boolean areTied(int a, int b) {
-            return head[a] == head[b];
-        }
-
         void tie(int a, int b) {
             int low = Math.min(head[a], head[b]);
             int high = Math.max(head[a], head[b]);
@@ -895,16 +891,22 @@ public final class PenTrails {
             int all = 2 * drawing.strokes;
             ends.begin(all);
             for (int a = 0; a < all; a++) {
-                for (int b = a + 1; b < all; b++) {
-                    if (!ends.areTied(a, b) && drawing.endsApart(a, b) <= join) {
-                        ends.tie(a, b);
-                    }
-                }
+                tieNearTo(a, all, join);
             }
             ends.numberAll();
             for (int m = 0; m < ends.count; m++) {
                 pointX[m] = drawing.x[ends.first[m]];
                 pointY[m] = drawing.y[ends.first[m]];
+            }
+        }
+
+        private void tieNearTo(int a, int all, int join) {
+            int x = drawing.x[a];
+            int y = drawing.y[a];
+            for (int b = a + 1; b < all; b++) {
+                if (Math.abs(drawing.x[b] - x) + Math.abs(drawing.y[b] - y) <= join) {
+                    ends.tie(a, b);
+                }
             }
         }
 
@@ -1038,6 +1040,9 @@ public final class PenTrails {
         /** So many sets come up with 14, as the first one free is always the next to be paired. */
         private static final int MOST_SETS = 610;
 
+        /** All but the empty set have the first one in them and are even, so that two bits need no place. */
+        private static final int SLOTS = 1 << MOST_MATCHED - 2;
+
         private final Meetings meetings;
         final int[] low = new int[MOST_STROKES];
         final int[] high = new int[MOST_STROKES];
@@ -1052,11 +1057,12 @@ public final class PenTrails {
         private final int[] oddApart = new int[MOST_MATCHED * MOST_MATCHED];
 
         // Sets of odd meetings that have partners, as bits, at places from 1 on: smaller ones first;
-        // by place the least travel that pairs all others; and by set its place, 0 for none.
+        // by place the least travel that pairs all others; and by slot the set's place, 0 for none.
         private final int[] sets = new int[MOST_SETS + 1];
         private int setCount = 0;
         private final int[] least = new int[MOST_SETS + 1];
-        private final int[] placeOf = new int[1 << MOST_MATCHED];
+        private final int[] placeOf = new int[SLOTS];
+        private int bestSum = 0;
 
         Pairing(Meetings meetings) {
             this.meetings = meetings;
@@ -1172,8 +1178,8 @@ public final class PenTrails {
         }
 
         private void listSets() {
-            setCount = 0;
-            putSet(0);
+            sets[1] = 0;
+            setCount = 1;
             for (int i = 1; i <= setCount && i <= MOST_SETS; i++) {
                 int paired = sets[i];
                 int a = firstFree(paired);
@@ -1186,17 +1192,22 @@ public final class PenTrails {
         }
 
         private void putSet(int paired) {
-            if (placeOf[paired] != 0 || setCount >= MOST_SETS) {
+            int slot = slotOf(paired);
+            if (placeOf[slot] != 0 || setCount >= MOST_SETS) {
                 return;
             }
             setCount++;
             sets[setCount] = paired;
-            placeOf[paired] = setCount;
+            placeOf[slot] = setCount;
+        }
+
+        private static int slotOf(int paired) {
+            return paired >> 1 & SLOTS - 1;
         }
 
         private void clearSets() {
             for (int i = 1; i <= setCount; i++) {
-                placeOf[sets[i]] = 0;
+                placeOf[slotOf(sets[i])] = 0;
             }
         }
 
@@ -1204,22 +1215,19 @@ public final class PenTrails {
         private void fillLeast() {
             least[setCount] = 0;
             for (int i = setCount - 1; i >= 1; i--) {
-                int a = firstFree(sets[i]);
-                least[i] = travelWith(sets[i], a, bestPartner(sets[i], a));
+                bestPartner(sets[i], firstFree(sets[i]));
+                least[i] = bestSum;
             }
         }
 
-        private int travelWith(int paired, int a, int b) {
-            return oddApart[a * MOST_MATCHED + b] + least[placeOf[paired | 1 << a | 1 << b]];
-        }
-
-        /** The first of the partners with which all that are free go least. */
+        /** The first of the partners with which all that are free go least; bestSum is how far that is. */
         private int bestPartner(int paired, int a) {
             int best = a;
-            int bestSum = 0;
+            bestSum = 0;
             for (int b = a + 1; b < odds; b++) {
                 if ((paired >> b & 1) == 0) {
-                    int sum = travelWith(paired, a, b);
+                    int place = placeOf[slotOf(paired | 1 << a | 1 << b)];
+                    int sum = oddApart[a * MOST_MATCHED + b] + least[place];
                     if (best == a || sum < bestSum) {
                         best = b;
                         bestSum = sum;
