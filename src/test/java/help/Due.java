@@ -1,6 +1,6 @@
 import java.util.NoSuchElementException;
 
-/** Counts the answers that are not as due, and tells them with the promise that they break. */
+/** Counts the answers that are not as due, and tells them with the words of the document that they break. */
 final class Due {
     static final int MIN = Integer.MIN_VALUE;
     static final int MAX = Integer.MAX_VALUE;
@@ -25,19 +25,27 @@ final class Due {
         + ";stroke 34 106 131 191;stroke 63 31 65 48;stroke 22 117 47 6;stroke 122 175 168 132"
         + ";stroke 29 111 8 60;stroke 191 122 194 19;stroke 44 156 14 70;stroke 61 178 51 135";
 
-    private int promise = 0;
+    /** No text of a drawing has more strokes. */
+    static final String FULL = "sheet size 20 join 0" + ";stroke 0 0 1 1".repeat(24);
+
+    private String words = "";
     private int asked = 0;
     private int wrong = 0;
 
     void promise(int number) {
-        promise = number;
+        words = "promise " + number;
+    }
+
+    /** The very words that are tested next: of a promise by its number, or of the terms by 0. QuotesTest reads these. */
+    void says(int promise, String quote) {
+        words = (promise == 0 ? "terms" : "promise " + promise) + " '" + quote + "'";
     }
 
     void is(String call, long got, long due) {
         asked++;
         if (got != due) {
             wrong++;
-            System.out.println("promise " + promise + ": " + call + " answered " + got + ", due is " + due);
+            System.out.println(words + ": " + call + " answered " + got + ", due is " + due);
         }
     }
 
@@ -53,20 +61,31 @@ final class Due {
         }
     }
 
-    void throwsNone(String call, PenTrails x, int i) {
-        boolean thrown = false;
-        try {
-            x.loose(i);
-        } catch (NoSuchElementException e) {
-            thrown = true;
+    /** What a call left as it was, told() ahead of it and behind it. */
+    void same(String call, String ahead, String behind) {
+        asked++;
+        if (!ahead.equals(behind)) {
+            wrong++;
+            System.out.println(words + ": " + call + " made " + behind + " of " + ahead);
         }
-        is(call + " throws", thrown ? 1 : 0, 1);
+    }
+
+    void throwsNone(String call, PenTrails x, int i) {
+        is(call + " throws", looseOf(x, i) == null ? 1 : 0, 1);
     }
 
     void end() {
         System.out.println(asked + " answers, " + wrong + " not as due");
         if (wrong != 0) {
             System.exit(1);
+        }
+    }
+
+    static Integer looseOf(PenTrails x, int i) {
+        try {
+            return x.loose(i);
+        } catch (NoSuchElementException e) {
+            return null;
         }
     }
 
@@ -96,11 +115,57 @@ final class Due {
         return x;
     }
 
+    /** A drawing by its strokes, four numbers each. */
+    static PenTrails drawn(int size, int join, int... points) {
+        return drawn(text(size, join, points));
+    }
+
+    static String text(int size, int join, int... points) {
+        StringBuilder text = new StringBuilder("sheet size ").append(size).append(" join ").append(join);
+        for (int i = 0; i < points.length; i++) {
+            text.append(i % 4 == 0 ? ";stroke " : " ").append(points[i]);
+        }
+        return text.toString();
+    }
+
     static int[] walkOf(PenTrails x, int p) {
         int[] ways = new int[60];
         for (int k = 0; k < 60; k++) {
             ways[k] = x.walk(p, k);
         }
         return ways;
+    }
+
+    /** The plan as a text: by place the trail's place at first, with a - if it goes backwards. */
+    static String planOf(PenTrails x) {
+        StringBuilder plan = new StringBuilder();
+        for (int i = 0; i < x.about(10); i++) {
+            plan.append(i == 0 ? "" : " ").append(x.trail(i, 5) == 1 ? "-" : "").append(x.trail(i, 6));
+        }
+        return plan.toString();
+    }
+
+    /** All that an object tells of its drawing, its plan and what can be undone, but not of the tape. */
+    static String told(PenTrails x) {
+        StringBuilder all = new StringBuilder();
+        for (int what = 0; what <= 10; what++) {
+            all.append(' ').append(x.about(what));
+        }
+        for (int i = 0; i < 48; i++) {
+            all.append('\n').append(i).append(':');
+            for (int what = 0; what <= 6; what++) {
+                all.append(' ').append(x.stroke(i, what)).append(' ').append(x.meeting(i, what)).append(' ').append(x.part(i, what));
+                all.append(' ').append(x.pair(i, what)).append(' ').append(x.trail(i, what));
+            }
+            for (int k = 0; k < 48; k++) {
+                all.append(' ').append(x.walk(i, k)).append(' ').append(x.ride(i, k)).append(' ').append(x.exchanged(i, k));
+            }
+            all.append(' ').append(x.rides(i)).append(' ').append(looseOf(x, i)).append(' ').append(x.enough(i % 24 + 1));
+        }
+        all.append('\n').append(x.travel()).append(' ').append(x.started()).append(' ').append(x.better(0));
+        all.append(' ').append(x.better(1)).append(' ').append(x.floor()).append(' ').append(x.time());
+        all.append(' ').append(x.longest()).append(' ').append(x.farthest()).append(' ').append(x.lifts());
+        all.append(' ').append(x.worst()).append(' ').append(x.nearest()).append(' ').append(x.size(1)).append(' ').append(x.size(2));
+        return all.toString();
     }
 }
