@@ -7,6 +7,10 @@ public final class PenTrails {
     private static final int MOST_STROKES = 24;
     private static final int MOST_ENDS = 2 * MOST_STROKES;
     private static final int MOST_JOIN = 50;
+
+    /** A power of 2 above half of MOST_JOIN, so that it and its halves reach each JOIN. */
+    private static final int FIRST_STEP = 32;
+
     private static final int MOST_PACE = 9;
     private static final int MOST_TIME = 99999;
 
@@ -292,16 +296,7 @@ public final class PenTrails {
             return refused(NO_SUCH);
         }
         otherDrawing.copy(drawing);
-        int nearest = 0;
-        int fewest = trailsOfOther(0);
-        for (int v = 1; v <= MOST_JOIN; v++) {
-            int some = trailsOfOther(v);
-            if (some < fewest) {
-                nearest = v;
-                fewest = some;
-            }
-        }
-        return told(nearest);
+        return told(leastJoinFor(trailsOfOther(MOST_JOIN)));
     }
 
     public int enough(int n) {
@@ -312,12 +307,8 @@ public final class PenTrails {
             return refused(NUMBER);
         }
         otherDrawing.copy(drawing);
-        for (int v = 0; v <= MOST_JOIN; v++) {
-            if (trailsOfOther(v) <= n) {
-                return told(v);
-            }
-        }
-        return told(NOTHING);
+        int least = leastJoinFor(n);
+        return told(least > MOST_JOIN ? NOTHING : least);
     }
 
     // ---- acts
@@ -486,6 +477,18 @@ public final class PenTrails {
     private int trailsOfOther(int join) {
         otherMeetings.gather(join);
         return otherMeetings.trailsInAll();
+    }
+
+    /** Where more ends meet, there are never more trails: so steps that become less find the last JOIN that won't do. */
+    private int leastJoinFor(int mostTrails) {
+        int tooLittle = -1;
+        for (int step = FIRST_STEP; step > 0; step /= 2) {
+            int v = tooLittle + step;
+            if (v <= MOST_JOIN && trailsOfOther(v) > mostTrails) {
+                tooLittle = v;
+            }
+        }
+        return tooLittle + 1;
     }
 
     private void startPlan() {

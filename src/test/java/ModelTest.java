@@ -48,6 +48,7 @@ public final class ModelTest {
         int step = 1 + by.nextInt(Math.max(1, size / 2));
         both.sheet(drawing(by, seed % 3 == 0 ? 24 : by.nextInt(25), size, seed % 4 == 0 ? 1 : step));
         both.askAll();
+        both.askNear();
         both.ask(34, 0, 0, 0, 0);
         both.askAll();
         ended("told " + seed, both);

@@ -163,6 +163,11 @@ public final class PlanBoundsTest {
         PenTrails none = Due.drawn(50, 0);
         none.home(50, 50);
         due.is("floor() of none", none, none.floor(), 0, 0);
+        PenTrails most = Due.drawn(200, 0);
+        for (int i = 0; i < 24; i++) {
+            most.add(8 * i, 0, 8 * i, 100);
+        }
+        due.is("floor() of 24", most, most.floor(), 23 * 8, 0);
         due.is("floor() of one", Due.drawn(50, 0, 9, 9, 3, 4).floor(), 7);
         due.says(0, "(Ends of a TRAIL: its first and last MEETING.)");
         due.is("floor() with the middle of a trail near home", Due.drawn(100, 0, 50, 0, 1, 1, 1, 1, 60, 0).floor(), 50);
@@ -386,6 +391,7 @@ public final class PlanBoundsTest {
         due.is("farthest() of a ring at home", Due.drawn(Due.TWO_RINGS).farthest(), 0);
         PenTrails line = Due.drawn(200, 0, LINE);
         due.is("farthest(): home", line, line.farthest(), 3, 0);
+        due.is("farthest(): 1, 20, 1", Due.drawn(200, 0, 1, 0, 11, 0, 31, 0, 0, 1).farthest(), 1);
         line.home(130, 0);
         due.is("farthest(): from home, 120, 30, 60, 0", line, line.farthest(), 0, 0);
         line.home(70, 0);

@@ -1,14 +1,20 @@
 import java.io.IOException;
 import java.lang.management.ManagementFactory;
+import java.lang.reflect.Array;
 import java.lang.reflect.Constructor;
 import java.lang.reflect.Field;
 import java.lang.reflect.Method;
 import java.lang.reflect.Modifier;
 import java.nio.file.Files;
 import java.nio.file.Path;
+import java.util.ArrayDeque;
 import java.util.Arrays;
+import java.util.Collections;
+import java.util.Deque;
+import java.util.IdentityHashMap;
 import java.util.List;
 import java.util.Random;
+import java.util.Set;
 import java.util.TreeSet;
 import java.util.regex.Matcher;
 import java.util.regex.Pattern;
@@ -124,20 +130,46 @@ public final class RulesTest {
         }
         long made = threads.getThreadAllocatedBytes(thread) - ahead;
         hold(made < 50000, "1200 calls make next to nothing, not " + made + " bytes (" + sum + ")");
-        ahead = threads.getThreadAllocatedBytes(thread);
-        PenTrails[] some = new PenTrails[100];
-        for (int i = 0; i < some.length; i++) {
-            some[i] = new PenTrails();
-        }
-        made = threads.getThreadAllocatedBytes(thread) - ahead;
-        hold(made < 100L * 120000, "an object takes less than 120,000 bytes, not " + made / 100);
     }
 
-    public static void main(String[] args) throws IOException {
+    /** 512 objects, one for each call of a run, fit into the room of 600,000 objects and 7.3 million elements. */
+    private static void roomOfOne() throws IllegalAccessException {
+        Set<Object> seen = Collections.newSetFromMap(new IdentityHashMap<>());
+        Deque<Object> open = new ArrayDeque<>(List.of(new PenTrails()));
+        int elements = 0;
+        while (!open.isEmpty()) {
+            Object o = open.poll();
+            if (!seen.add(o)) {
+                continue;
+            }
+            if (o.getClass().isArray()) {
+                elements += Array.getLength(o);
+                for (int i = 0; !o.getClass().getComponentType().isPrimitive() && i < Array.getLength(o); i++) {
+                    open.add(Array.get(o, i));
+                }
+                continue;
+            }
+            for (Field f : o.getClass().getDeclaredFields()) {
+                if (!Modifier.isStatic(f.getModifiers())) {
+                    elements++;
+                    f.setAccessible(true);
+                    if (!f.getType().isPrimitive()) {
+                        open.add(f.get(o));
+                    }
+                }
+            }
+        }
+        hold(seen.size() < 600000 / 512, "few objects in one, not " + seen.size());
+        hold(elements < 7300000 / 512, "few fields and elements in one, not " + elements);
+        System.out.println("an object is made of " + seen.size() + " objects and arrays with " + elements + " fields and elements");
+    }
+
+    public static void main(String[] args) throws IOException, IllegalAccessException {
         face();
         classes();
         text();
         room();
+        roomOfOne();
         System.out.println(wrong == 0 ? "all rules that were looked at are kept" : wrong + " rules are not kept");
         if (wrong != 0) {
             System.exit(1);

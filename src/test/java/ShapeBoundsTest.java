@@ -188,6 +188,21 @@ public final class ShapeBoundsTest {
         // 16 in all, but 8 in each part.
         pairRows("two parts", Due.drawn(200, 0, both(comb(0, 8), comb(100, 8))), new int[][] {{1, 3, 2, 1}, {2, 4, 2, 0}, {5, 7, 2, 0},
             {6, 8, 2, 0}, {10, 12, 2, 1}, {11, 13, 2, 0}, {14, 16, 2, 0}, {15, 17, 2, 0}});
+        // 14 in one part, 4 in the other one, either first.
+        int[] star = star(150, 50, 100, 0, 200, 0, 101, 0, 199, 0);
+        int[][] fewer = {{1, 2, 101, 1}, {3, 5, 2, 0}, {4, 6, 2, 0}, {7, 9, 2, 0}, {8, 10, 2, 0}, {11, 13, 2, 0}, {12, 14, 2, 0},
+            {16, 18, 1, 1}, {17, 19, 1, 0}};
+        int[][] fewerFirst = {{1, 3, 1, 1}, {2, 4, 1, 0}, {6, 7, 101, 1}, {8, 10, 2, 0}, {9, 11, 2, 0}, {12, 14, 2, 0}, {13, 15, 2, 0},
+            {16, 18, 2, 0}, {17, 19, 2, 0}};
+        PenTrails unequal = Due.drawn(200, 0, both(comb(0, 14), star));
+        pairRows("14 and 4", unequal, fewer);
+        // The same object pairs others behind an act, and the same again behind that.
+        unequal.drop(0);
+        due.is("size(2) without an arm", unequal.size(2), 9);
+        unequal.undo();
+        pairRows("14 and 4 again", unequal, fewer);
+        due.is("another sheet", Due.sheet(unequal, Due.text(200, 0, both(star, comb(0, 14)))), 18);
+        pairRows("4 and 14", unequal, fewerFirst);
         // 16 in one part, 4 in the other one.
         PenTrails unlike = Due.drawn(200, 0, both(comb(0, 16), star(150, 50, 100, 0, 200, 0, 101, 0, 199, 0)));
         due.row("the part with 16", new int[] {unlike.pair(7, 0), unlike.pair(7, 1), unlike.part(0, 5)}, 15, 16, 8 * 101);
@@ -252,6 +267,9 @@ public final class ShapeBoundsTest {
         walk("a ring in a ring", Due.drawn(50, 0, both(path, both(ring, within))), 0, 0, 4, 10, 12, 14, 6, 8, 2);
         walk("a ring told first", Due.drawn(50, 0, both(ring, path)), 0, 6, 0, 2, 4, 8);
         walk("a ring at the first place", Due.drawn(9, 0, 0, 0, 4, 0, 0, 0, 0, 4, 0, 4, 4, 4, 4, 4, 0, 0), 0, 2, 4, 6, 0);
+        // A ring at each of two places of the walk, that of the later place told first.
+        walk("rings at two places", Due.drawn(50, 0, 0, 0, 10, 0, 10, 0, 20, 0, 20, 0, 30, 0, 20, 0, 20, 10, 20, 10, 25, 10, 25, 10, 20, 0,
+            10, 0, 10, 10, 10, 10, 5, 10, 5, 10, 10, 0), 0, 0, 12, 14, 16, 2, 6, 8, 10, 4);
         // Two triangles at the same place: the walk goes on by the second one as long as it is there.
         walk("two rings at one place", Due.drawn(50, 0, both(path, both(ring, new int[] {10, 0, 10, 30, 10, 30, 20, 30, 20, 30, 10, 0}))),
             0, 0, 4, 6, 8, 10, 12, 14, 2);

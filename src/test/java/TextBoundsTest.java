@@ -81,6 +81,16 @@ public final class TextBoundsTest {
         wrong("sheet sizejoin 20 1", 1, 6);
         wrong("sheet sizes 20 join 1", 1, 6);
         wrong("sheet size 20 joint 1", 1, 14);
+        // Each letter of each word counts.
+        for (int at = 0; at < LONG.length(); at++) {
+            if (isLetter(LONG.charAt(at))) {
+                int word = at;
+                while (word > 0 && isLetter(LONG.charAt(word - 1))) {
+                    word--;
+                }
+                wrong(LONG.substring(0, at) + "x" + LONG.substring(at + 1), 1, word);
+            }
+        }
         for (int sign = 0; sign <= 255; sign++) {
             // A letter makes a word of five; a digit a whole of two; anything else begins no token or a wrong one.
             String text = HEAD + ";pace" + (char) sign + "1 1";

@@ -120,6 +120,15 @@ final class Both {
         }
     }
 
+    /** What would be: slow in the model, so for some n alone. */
+    void askNear() {
+        ask(20, 0, 0, 0, 0);
+        ask(21, 0, 0, 0, 0);
+        for (int n = 0; n <= 25; n += n < 4 ? 1 : 7) {
+            ask(22, n, 0, 0, 0);
+        }
+    }
+
     /** All that can be told of drawing and plan. */
     void askAll() {
         for (int what = -1; what <= 11; what++) {
