@@ -348,7 +348,7 @@ public final class ActsBoundsTest {
         due.is("nearest() of none", none, none.nearest(), 0, 0);
         due.is("nearest() of one", Due.drawn(9, 9, 0, 0, 5, 5).nearest(), 0);
         due.says(28, "The least JOIN (0 .. 50) by which there are no more than n TRAILS (1 .. 24); -2 there is none.");
-        for (int gap : new int[] {1, 2, 49, 50, 51, 52}) {
+        for (int gap = 1; gap <= 52; gap++) {
             for (int join : new int[] {0, 1, 50}) {
                 PenTrails x = Due.drawn(200, join, 0, 0, 60, 0, 60 + gap, 0, 200, 0);
                 String ahead = Due.told(x);

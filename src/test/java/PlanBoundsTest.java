@@ -44,6 +44,8 @@ public final class PlanBoundsTest {
         x.undo();
         due.is("all the other way", x.exchange(0, 2), 130 + 60 + 30 + 10);
         due.is("from another home", x.home(100, 3), 33 + 60 + 30 + 93);
+        // The trail goes from end 2, but its meeting's point is that of end 0.
+        due.is("travel() where ends are near", Due.drawn(9, 1, 2, 0, 9, 9, 1, 0, 9, 9).travel(), 2 + 2);
         due.says(0, "TRAVEL of the PLAN: of all of ROUTE. (0 without TRAILS.)");
         PenTrails one = Due.drawn(200, 0, 10, 0, 20, 0);
         due.is("travel() of one", one.travel(), 10 + 20);
@@ -346,6 +348,13 @@ public final class PlanBoundsTest {
         PenTrails near = Due.drawn(9, 0, 0, 0, 1, 0);
         pen(near, 0, 0, 1, 0);
         pen(near, 1, 1, 0, 1);
+        // From end to end within a meeting the pen goes in no time, and stays down.
+        PenTrails gap = Due.drawn(50, 3, 0, 0, 10, 0, 12, 1, 20, 1);
+        due.is("time() with a gap", gap.time(), 18 + 21);
+        pen(gap, 9, 0, 1, 0);
+        pen(gap, 10, 1, 1, 0);
+        pen(gap, 17, 1, 1, 0);
+        pen(gap, 18, 2, 0, 1);
         pen(Due.drawn(9, 0), 0, 0, 0, 0);
         pen(Due.drawn(9, 0), 99999, 0, 0, 0);
         PenTrails far = longOne();
