@@ -1,3 +1,9 @@
+import java.util.ArrayList;
+import java.util.Arrays;
+import java.util.Collections;
+import java.util.List;
+import java.util.Random;
+
 /** Ends, meetings, parts, pairs and walks (terms II, promises 6 to 11): each sentence at its bounds. */
 public final class ShapeBoundsTest {
     private static final Due due = new Due();
@@ -25,7 +31,7 @@ public final class ShapeBoundsTest {
     }
 
     private static int[] both(int[] a, int[] b) {
-        int[] all = java.util.Arrays.copyOf(a, a.length + b.length);
+        int[] all = Arrays.copyOf(a, a.length + b.length);
         System.arraycopy(b, 0, all, a.length, b.length);
         return all;
     }
@@ -125,7 +131,7 @@ public final class ShapeBoundsTest {
         int[] points = {0, 0, 100, 0, 0, 100, 100, 100, 50, 0, 50, 100, 0, 50};
         int[] odd = {2, 2, 4, 4, 6, 6, 8};
         for (int arms = 1; arms <= 7; arms++) {
-            PenTrails x = Due.drawn(100, 0, star(50, 50, java.util.Arrays.copyOf(points, 2 * arms)));
+            PenTrails x = Due.drawn(100, 0, star(50, 50, Arrays.copyOf(points, 2 * arms)));
             due.is("meeting(0, 2) of " + arms, x.meeting(0, 2), arms);
             due.is("about(9) of " + arms + " arms", x.about(9), odd[arms - 1]);
             due.is("part(0, 2) of " + arms + " arms", x.part(0, 2), odd[arms - 1]);
@@ -163,6 +169,47 @@ public final class ShapeBoundsTest {
             new int[][] {{1, 2, 1, 0}, {3, 4, 1, 0}, {5, 7, 10, 1}, {6, 8, 10, 0}});
         pairRows("two squares", Due.drawn(200, 0, star(50, 50, 0, 0, 10, 10, 10, 0, 0, 10, 90, 90, 100, 100, 100, 90, 90, 100)),
             new int[][] {{1, 3, 10, 1}, {2, 4, 10, 0}, {5, 7, 10, 0}, {6, 8, 10, 0}});
+    }
+
+    /**
+     * Arms to a line, in any order, up to 14: there the least travel pairs those that stand side by side,
+     * the first two of the line, the next two, and so on, and by no other way is it as little.
+     */
+    private static void pairsOnALine() {
+        due.says(0, "PAIRS of a PART: its ODD MEETINGS, two by two, so that TRAVEL of all these is least together;");
+        Random by = new Random(14);
+        for (int n = 0; n < 400; n++) {
+            int arms = n < 200 ? 14 : 2 + n % 7 * 2;
+            List<Integer> line = new ArrayList<>();
+            while (line.size() < arms) {
+                int x = by.nextInt(n % 2 == 0 ? 201 : 30);
+                if (!line.contains(x)) {
+                    line.add(x);
+                }
+            }
+            int[] points = new int[2 * arms];
+            for (int i = 0; i < arms; i++) {
+                points[2 * i] = line.get(i);
+            }
+            PenTrails x = Due.drawn(200, 0, star(100, 100, points));
+            List<Integer> sorted = new ArrayList<>(line);
+            Collections.sort(sorted);
+            int pair = 0;
+            for (int i = 0; i < arms; i++) {
+                int partner = line.indexOf(sorted.get(sorted.indexOf(line.get(i)) ^ 1));
+                if (partner > i) {
+                    due.row("pair(" + pair + ", _) of " + line, new int[] {x.pair(pair, 0), x.pair(pair, 1), x.pair(pair, 2)}, i + 1,
+                        partner + 1, Math.abs(line.get(i) - line.get(partner)));
+                    pair++;
+                }
+            }
+            due.is("size(2)", x.size(2), pair);
+        }
+        // The first and the last of 14 are nearest to one another, but no pair.
+        PenTrails ends = Due.drawn(200, 0, star(50, 50, 10, 0, 0, 0, 21, 0, 40, 0, 41, 0, 60, 0, 61, 0, 80, 0, 81, 0, 100, 0, 101, 0, 120, 0,
+            121, 0, 11, 0));
+        pairRows("14 with near ends", ends, new int[][] {{1, 2, 10, 1}, {3, 14, 10, 0}, {4, 5, 1, 0}, {6, 7, 1, 0}, {8, 9, 1, 0},
+            {10, 11, 1, 0}, {12, 13, 1, 0}});
     }
 
     private static void manyPairs() {
@@ -429,6 +476,7 @@ public final class ShapeBoundsTest {
         parts();
         odd();
         leastPairs();
+        pairsOnALine();
         manyPairs();
         cuts();
         walkBegins();
